@@ -6,31 +6,12 @@ public final class ModelTest {
     private final TokenNets real = new TokenNets();
     private final PlainNets plain = new PlainNets();
     private final StringBuilder story = new StringBuilder();
-    // A lean run asks less often for what may be TOO_MANY, and keeps its numbers small.
+    // Style 3 has big numbers; the others differ in how long they mostly change things.
     private final int style;
 
     private ModelTest(int seed) {
         dice = new Dice(seed);
         style = seed % 4;
-    }
-
-    private static final class Dice {
-        private long state;
-
-        Dice(int seed) {
-            state = seed * 2654435761L + 88172645463325252L;
-        }
-
-        int upTo(int many) {
-            state ^= state << 13;
-            state ^= state >>> 7;
-            state ^= state << 17;
-            return (int) Math.floorMod(state >>> 11, (long) many);
-        }
-
-        int of(int... choices) {
-            return choices[upTo(choices.length)];
-        }
     }
 
     private boolean same(String call, long got, long want) {
@@ -114,10 +95,7 @@ public final class ModelTest {
     private boolean text() {
         String orders = orders();
         for (int i = 0; i < orders.length(); i += 8) {
-            long packed = 0;
-            for (char c : orders.substring(i, Math.min(i + 8, orders.length())).toCharArray()) {
-                packed = packed << 8 | c;
-            }
+            long packed = Due.packed(orders.substring(i, Math.min(i + 8, orders.length())));
             if (!same("put(" + packed + "L)", real.put(packed), plain.put(packed))) {
                 return false;
             }
@@ -231,7 +209,7 @@ public final class ModelTest {
 
     public static void main(String[] args) {
         int first = args.length > 0 ? Integer.parseInt(args[0]) : 1;
-        int many = args.length > 1 ? Integer.parseInt(args[1]) : 150;
+        int many = args.length > 1 ? Integer.parseInt(args[1]) : 120;
         int wrong = 0;
         for (int seed = first; seed < first + many && wrong < 3; seed++) {
             if (!new ModelTest(seed).runs()) {
