@@ -179,13 +179,13 @@ public final class TokenNets {
             return BAD_VALUE;
         }
         reach.find(net);
-        if (reach.tooMany) {
+        if (reach.marks.tooMany) {
             return TOO_MANY;
         }
         switch (what) {
-            case 0: return reach.many;
+            case 0: return reach.marks.many;
             case 1: return reach.dead;
-            default: return reach.possible;
+            default: return reach.marks.possible;
         }
     }
 
@@ -197,7 +197,7 @@ public final class TokenNets {
             return BAD_VALUE;
         }
         reach.find(net);
-        return reach.tooMany ? TOO_MANY : reach.fewestMoves(place, tokens);
+        return reach.marks.tooMany ? TOO_MANY : reach.fewestMoves(place, tokens);
     }
 
     public int growth(int what) {
@@ -205,13 +205,13 @@ public final class TokenNets {
             return BAD_VALUE;
         }
         tree.find(net);
-        if (tree.tooMany) {
+        if (tree.marks.tooMany) {
             return TOO_MANY;
         }
         switch (what) {
-            case 0: return tree.many;
+            case 0: return tree.marks.many;
             case 1: return tree.endlessPlaces();
-            case 2: return tree.possible;
+            case 2: return tree.marks.possible;
             default: return tree.deepest;
         }
     }
@@ -221,7 +221,7 @@ public final class TokenNets {
             return NO_SUCH;
         }
         tree.find(net);
-        if (tree.tooMany) {
+        if (tree.marks.tooMany) {
             return TOO_MANY;
         }
         int most = tree.mostTokens(place);
@@ -618,6 +618,7 @@ public final class TokenNets {
 
     /** The bits of floating numbers that are 0 or above, and not tiny. */
     private static final class Bits {
+        /** The bits of a number from 0 to 1. */
         static int ofFloat(float value) {
             if (value <= 0f) {
                 return 0;
@@ -627,10 +628,6 @@ public final class TokenNets {
             for (int i = 0; i < 126 && scaled < 1f; i++) {
                 scaled = scaled * 2f;
                 exponent--;
-            }
-            for (int i = 0; i < 127 && scaled >= 2f; i++) {
-                scaled = scaled / 2f;
-                exponent++;
             }
             return (exponent << 23) + (int) ((scaled - 1f) * 8388608f);
         }
@@ -786,47 +783,99 @@ public final class TokenNets {
         }
     }
 
+    /** Markings that are found one by one, from that of now on; at most 300 of them. */
+    private static final class Marks {
+        // The net that they are of.
+        final Net net = new Net();
+        private boolean known;
+        // Eight numbers for each marking.
+        final int[] rows = new int[MOST_MARKINGS * SIZE];
+        // The marking that may be taken in next.
+        final int[] next = new int[SIZE];
+        int many;
+        boolean tooMany;
+        int possible;
+
+        /** Begins anew with the marking of now as the next one, unless this net was looked at before. */
+        boolean begins(Net now) {
+            if (known && net.sameArcs(now) && net.sameMarking(now)) {
+                return false;
+            }
+            net.copy(now);
+            known = true;
+            many = 0;
+            tooMany = false;
+            possible = 0;
+            System.arraycopy(now.tokens, 0, next, 0, SIZE);
+            return true;
+        }
+
+        /** Whether the move can be made at a marking; then the one behind it is the next one. */
+        boolean leads(int from, int move, int mostHeld) {
+            if (!net.allows(rows, from * SIZE, move, mostHeld)) {
+                return false;
+            }
+            possible |= 1 << move;
+            net.step(rows, from * SIZE, move, next);
+            return true;
+        }
+
+        /** Takes the next one in; false if it is one too many. */
+        boolean takeIn() {
+            if (many >= MOST_MARKINGS) {
+                tooMany = true;
+                return false;
+            }
+            System.arraycopy(next, 0, rows, many * SIZE, SIZE);
+            many++;
+            return true;
+        }
+
+        boolean isNext(int marking) {
+            return isLike(marking, next, 0);
+        }
+
+        boolean areSame(int marking, int other) {
+            return isLike(marking, rows, other * SIZE);
+        }
+
+        private boolean isLike(int marking, int[] others, int from) {
+            for (int p = 0; p < SIZE; p++) {
+                if (rows[marking * SIZE + p] != others[from + p]) {
+                    return false;
+                }
+            }
+            return true;
+        }
+    }
+
     /** The markings that can be reached, those with fewer moves first. */
     private static final class Reach {
         private static final int TABLE = 1024;
 
-        private final Net seen = new Net();
-        private boolean known;
-        private final int[] marks = new int[MOST_MARKINGS * SIZE];
+        final Marks marks = new Marks();
         private final int[] moves = new int[MOST_MARKINGS];
-        private final int[] behind = new int[SIZE];
         // Where a marking is, by its hash: its number and 1, or 0 for a free place.
         private final int[] table = new int[TABLE];
-        int many;
-        boolean tooMany;
         int dead;
-        int possible;
 
         void find(Net net) {
-            if (known && seen.sameArcs(net) && seen.sameMarking(net)) {
+            if (!marks.begins(net)) {
                 return;
             }
-            seen.copy(net);
-            known = true;
-            many = 0;
-            tooMany = false;
             dead = 0;
-            possible = 0;
             Arrays.fill(table, 0);
-            System.arraycopy(net.tokens, 0, behind, 0, SIZE);
             meet(0);
-            for (int i = 0; i < MOST_MARKINGS && i < many && !tooMany; i++) {
+            for (int i = 0; i < MOST_MARKINGS && i < marks.many && !marks.tooMany; i++) {
                 follow(i);
             }
         }
 
         private void follow(int from) {
             boolean stuck = true;
-            for (int m = 0; m < seen.moves; m++) {
-                if (seen.allows(marks, from * SIZE, m, MOST_HELD)) {
+            for (int m = 0; m < marks.net.moves; m++) {
+                if (marks.leads(from, m, MOST_HELD)) {
                     stuck = false;
-                    possible |= 1 << m;
-                    seen.step(marks, from * SIZE, m, behind);
                     meet(moves[from] + 1);
                 }
             }
@@ -835,46 +884,33 @@ public final class TokenNets {
             }
         }
 
-        /** Takes the marking behind a move in, if it is a new one. */
+        /** Takes the next marking in, if it is a new one. */
         private void meet(int movesTo) {
-            int at = hash();
+            int at = hash(marks.next);
             for (int i = 0; i < TABLE && table[at] != 0; i++) {
-                if (isBehind(table[at] - 1)) {
+                if (marks.isNext(table[at] - 1)) {
                     return;
                 }
                 at = at + 1 & TABLE - 1;
             }
-            if (many >= MOST_MARKINGS) {
-                tooMany = true;
-                return;
+            if (marks.takeIn()) {
+                moves[marks.many - 1] = movesTo;
+                table[at] = marks.many;
             }
-            System.arraycopy(behind, 0, marks, many * SIZE, SIZE);
-            moves[many] = movesTo;
-            many++;
-            table[at] = many;
         }
 
-        private int hash() {
+        private static int hash(int[] tokens) {
             int mixed = 0;
             for (int p = 0; p < SIZE; p++) {
-                mixed = mixed * 31 + behind[p];
+                mixed = mixed * 31 + tokens[p];
             }
-            mixed = mixed * -1640531527;
-            return mixed >>> 22 & TABLE - 1;
-        }
-
-        private boolean isBehind(int marking) {
-            for (int p = 0; p < SIZE; p++) {
-                if (marks[marking * SIZE + p] != behind[p]) {
-                    return false;
-                }
-            }
-            return true;
+            // Spread by the golden ratio: the upper bits depend on all of them.
+            return mixed * -1640531527 >>> 22 & TABLE - 1;
         }
 
         int fewestMoves(int place, int tokens) {
-            for (int i = 0; i < many; i++) {
-                if (marks[i * SIZE + place] >= tokens) {
+            for (int i = 0; i < marks.many; i++) {
+                if (marks.rows[i * SIZE + place] >= tokens) {
                     return moves[i];
                 }
             }
@@ -884,46 +920,30 @@ public final class TokenNets {
 
     /** The growth tree; a node comes after the one above it. */
     private static final class Tree {
-        private final Net seen = new Net();
-        private boolean known;
-        private final int[] marks = new int[MOST_MARKINGS * SIZE];
+        final Marks marks = new Marks();
         private final int[] above = new int[MOST_MARKINGS];
         private final int[] depths = new int[MOST_MARKINGS];
         // The nodes from the top down to the one that is followed.
         private final int[] path = new int[MOST_MARKINGS];
-        private final int[] child = new int[SIZE];
-        int many;
-        boolean tooMany;
-        int possible;
         int deepest;
 
         void find(Net net) {
-            if (known && seen.sameArcs(net) && seen.sameMarking(net)) {
+            if (!marks.begins(net)) {
                 return;
             }
-            seen.copy(net);
-            known = true;
-            many = 0;
-            tooMany = false;
-            possible = 0;
             deepest = 0;
-            System.arraycopy(net.tokens, 0, child, 0, SIZE);
             add(0, 0);
-            for (int i = 0; i < MOST_MARKINGS && i < many && !tooMany; i++) {
+            for (int i = 0; i < MOST_MARKINGS && i < marks.many && !marks.tooMany; i++) {
                 follow(i);
             }
         }
 
         private void add(int parent, int depth) {
-            if (many >= MOST_MARKINGS) {
-                tooMany = true;
-                return;
+            if (marks.takeIn()) {
+                above[marks.many - 1] = parent;
+                depths[marks.many - 1] = depth;
+                deepest = Math.max(deepest, depth);
             }
-            System.arraycopy(child, 0, marks, many * SIZE, SIZE);
-            above[many] = parent;
-            depths[many] = depth;
-            deepest = Math.max(deepest, depth);
-            many++;
         }
 
         private void follow(int node) {
@@ -934,40 +954,29 @@ public final class TokenNets {
                 at = above[at];
             }
             for (int d = 0; d < depth; d++) {
-                if (isSame(path[d], node)) {
+                if (marks.areSame(path[d], node)) {
                     return;
                 }
             }
-            for (int m = 0; m < seen.moves && !tooMany; m++) {
-                if (seen.allows(marks, node * SIZE, m, Integer.MAX_VALUE)) {
-                    possible |= 1 << m;
-                    seen.step(marks, node * SIZE, m, child);
+            for (int m = 0; m < marks.net.moves && !marks.tooMany; m++) {
+                if (marks.leads(node, m, Integer.MAX_VALUE)) {
                     for (int d = 0; d <= depth; d++) {
-                        outgrow(path[d]);
+                        outgrow(path[d], marks.next);
                     }
                     add(node, depth + 1);
                 }
             }
         }
 
-        private boolean isSame(int one, int other) {
-            for (int p = 0; p < SIZE; p++) {
-                if (marks[one * SIZE + p] != marks[other * SIZE + p]) {
-                    return false;
-                }
-            }
-            return true;
-        }
-
         /** Makes the child endless where it has more than a node that has nowhere more than it. */
-        private void outgrow(int node) {
+        private void outgrow(int node, int[] child) {
             for (int p = 0; p < SIZE; p++) {
-                if (marks[node * SIZE + p] > child[p]) {
+                if (marks.rows[node * SIZE + p] > child[p]) {
                     return;
                 }
             }
             for (int p = 0; p < SIZE; p++) {
-                if (marks[node * SIZE + p] < child[p]) {
+                if (marks.rows[node * SIZE + p] < child[p]) {
                     child[p] = ENDLESS;
                 }
             }
@@ -975,8 +984,8 @@ public final class TokenNets {
 
         int mostTokens(int place) {
             int most = 0;
-            for (int i = 0; i < many; i++) {
-                most = Math.max(most, marks[i * SIZE + place]);
+            for (int i = 0; i < marks.many; i++) {
+                most = Math.max(most, marks.rows[i * SIZE + place]);
             }
             return most;
         }

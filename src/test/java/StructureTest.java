@@ -129,6 +129,10 @@ public final class StructureTest {
         due.is("trap(127, 0)", eight.trap(127, 0), 126);
         due.is("trap(127, 2)", eight.trap(127, 2), 6);
         due.is("trap(254, 1)", eight.trap(254, 1), 126);
+        due.is("trap(254, 3)", eight.trap(254, 3), 6);
+        due.is("trap(129, 3)", eight.trap(129, 3), 2);
+        due.is("trap(128, 3)", eight.trap(128, 3), 0);
+        due.is("trap(128, 2)", eight.trap(128, 2), 1);
         due.is("trap(256, 0)", eight.trap(256, 0), -1);
     }
 

@@ -76,6 +76,19 @@ public final class UndoTest {
         x.undo();
         due.is("count(6)", x.count(6), 0);
         due.is("count(0)", x.count(0), 0);
+        // A full history keeps its oldest state through errors.
+        TokenNets y = new TokenNets();
+        for (int i = 0; i < 7; i++) {
+            y.place(i);
+        }
+        y.place(-1);
+        y.make(0);
+        y.run(0, 0);
+        y.restore(1);
+        for (int i = 5; i >= 0; i--) {
+            due.is("undo()", y.undo(), i);
+            due.is("count(0)", y.count(0), i + 1);
+        }
     }
 
     private static void save() {
