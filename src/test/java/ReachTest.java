@@ -45,6 +45,62 @@ public final class ReachTest {
         due.is("reached(0) of a full ring", ring.reached(0), -4);
     }
 
+    /** Places that empty on their own: as many markings as the product tells, with very different tokens. */
+    private static void products() {
+        Due due = new Due("promise 17, products");
+        for (int first = 1; first < 18; first++) {
+            for (int takes = 1; takes <= 9; takes++) {
+                int second = 300 / (first + 1) - 1;
+                TokenNets x = new TokenNets();
+                x.place(first * takes);
+                x.place(second);
+                x.place(999 - 50 * takes);
+                x.place(0);
+                x.move();
+                x.move();
+                x.arc(0, 0, takes, 0);
+                x.arc(1, 1, 1, 0);
+                x.arc(1, 3, 0, takes);
+                int all = (first + 1) * (second + 1);
+                due.is("reached(0) of " + first + " and " + second, x.reached(0), all);
+                due.is("reached(1)", x.reached(1), 1);
+                due.is("fewest(3, all)", x.fewest(3, second * takes), second);
+                x.place(1);
+                x.move();
+                x.arc(2, 4, 1, 0);
+                due.is("reached(0), twice as many", x.reached(0), 2 * all > 300 ? -4 : 2 * all);
+            }
+        }
+    }
+
+    /** Pairs of places that hand tokens to and fro: each marking is met again and again. */
+    private static void pairs() {
+        Due due = new Due("promise 17, pairs");
+        for (int one = 1; one < 17; one++) {
+            for (int step = 1; step <= 9; step++) {
+                int[] many = {one, 300 / (one + 1) / 2 - 1, 1};
+                TokenNets x = new TokenNets();
+                int all = 1;
+                for (int i = 0; i < 3; i++) {
+                    int takes = i == 0 ? step : 10 - step;
+                    x.place(many[i] * takes);
+                    // Fewer than a step, so that they stay.
+                    x.place(step - 1);
+                    x.move();
+                    x.move();
+                    x.arc(2 * i, 2 * i, takes, 0);
+                    x.arc(2 * i, 2 * i + 1, 0, step);
+                    x.arc(2 * i + 1, 2 * i, 0, takes);
+                    x.arc(2 * i + 1, 2 * i + 1, step, 0);
+                    all *= many[i] + 1;
+                }
+                due.is("reached(0) of " + one + " by " + step, x.reached(0), all);
+                due.is("reached(1)", x.reached(1), 0);
+                due.is("reached(2)", x.reached(2), 63);
+            }
+        }
+    }
+
     private static void fewest() {
         Due due = new Due("promise 18");
         TokenNets x = Due.net("p5;p0;p0;m<0>1;m<1>2;m<0*3>2*2");
@@ -139,6 +195,8 @@ public final class ReachTest {
 
     public static void main(String[] args) {
         reached();
+        products();
+        pairs();
         fewest();
         growth();
         bound();
