@@ -13,6 +13,8 @@ public final class TokenNets {
     private static final int MOST_MARKINGS = 300;
     // Above each count that a growth tree of 300 nodes can come to, and far below an int's end.
     private static final int ENDLESS = 1 << 30;
+    // Above what an endless place can have given to it, so that no move is held back.
+    private static final int NO_BOUND = ENDLESS + 9;
 
     private final Net net;
     private final History history;
@@ -959,7 +961,7 @@ public final class TokenNets {
                 }
             }
             for (int m = 0; m < marks.net.moves && !marks.tooMany; m++) {
-                if (marks.leads(node, m, Integer.MAX_VALUE)) {
+                if (marks.leads(node, m, NO_BOUND)) {
                     for (int d = 0; d <= depth; d++) {
                         outgrow(path[d], marks.next);
                     }
