@@ -385,6 +385,10 @@ public final class ReachEdgesTest {
                 x.arc(m, p, 1, 0);
                 due.is("reached(0) as it takes from " + p, x.reached(0), 2);
                 due.is("growth(0) as it takes from " + p, x.growth(0), 16);
+                x.arc(m, p, 1, 1);
+                due.is("reached(0) as it takes and gives again", x.reached(0), 1);
+                due.is("growth(0) as it takes and gives again", x.growth(0), 9);
+                x.arc(m, p, 1, 0);
                 x.tokens(p, 0);
                 due.is("reached(2) without tokens on " + p, x.reached(2), 255 - (1 << m));
                 due.is("growth(0) without tokens on " + p, x.growth(0), 8);
@@ -395,6 +399,21 @@ public final class ReachEdgesTest {
                 x.arc(m, p, 0, 0);
             }
         }
+    }
+
+    /** Each place has other tokens then, but the arcs are the same. */
+    private static void askedAnewAfterAMove() {
+        Due due = new Due("promises 17 to 20, after a move of all places");
+        TokenNets x = Due.net("p3;p3;p3;p3;p3;p3;p3;p3;m<0,1,2,3,4,5,6,7");
+        for (int left = 3; left >= 0; left--) {
+            due.is("reached(0) with " + left, x.reached(0), left + 1);
+            due.is("growth(3) with " + left, x.growth(3), left);
+            due.is("bound(7) with " + left, x.bound(7), left);
+            due.is("fewest(7, 3) with " + left, x.fewest(7, 3), left == 3 ? 0 : -6);
+            x.make(0);
+        }
+        x.undo();
+        due.is("bound(7) after undo", x.bound(7), 1);
     }
 
     private static void askedAnewAfterPlacesAndMovesCome() {
@@ -443,6 +462,7 @@ public final class ReachEdgesTest {
         boundOfEachPlace();
         nothingChangesByAsking();
         askedAnewAfterEachChange();
+        askedAnewAfterAMove();
         askedAnewAfterPlacesAndMovesCome();
         Due.end();
     }

@@ -144,6 +144,10 @@ public final class StructureEdgesTest {
                 due.is("keptMany() as it takes and gives", x.keptMany(), 8);
                 x.arc(m, p, 1, 0);
                 due.is("keptMany() as it takes from " + p, x.keptMany(), 7);
+                x.arc(m, p, 1, 1);
+                due.is("keptMany() as it takes and gives again", x.keptMany(), 8);
+                x.arc(m, p, 0, 1);
+                due.is("keptMany() as it gives again", x.keptMany(), 7);
                 x.arc(m, p, 0, 0);
             }
         }
