@@ -56,6 +56,38 @@ public final class StructureEdgesTest {
         sums("places of a sum and one more", Due.net("p0;p0;p0;m<0>1*2;m<2>2"), row(0, 0, 1), row(2, 1, 0));
     }
 
+    /**
+     * Four of one place and one of a second one for three of a third one: 0,3,1 is kept, and so are 1,2,2 and
+     * 2,1,3, which have all three places. Without the second place it would be 3,0,4, which is too much, so only
+     * the sum without the first one is less than they are.
+     */
+    private static void oneOfThreePlacesTooMany() {
+        for (int first = 0; first < 8; first++) {
+            for (int second = 0; second < 8; second++) {
+                int third = (Math.max(first, second) + 1) % 8;
+                third = third == first || third == second ? (third + 1) % 8 : third;
+                if (first == second || third == first || third == second) {
+                    continue;
+                }
+                TokenNets x = Due.net("p0;p0;p0;p0;p0;p0;p0;p0;m;m;m;m;m;m");
+                x.arc(0, first, 4, 0);
+                x.arc(0, second, 1, 0);
+                x.arc(0, third, 0, 3);
+                int move = 1;
+                for (int p = 0; p < 8; p++) {
+                    if (p != first && p != second && p != third) {
+                        x.arc(move, p, 1, 0);
+                        move++;
+                    }
+                }
+                int[] want = new int[8];
+                want[second] = 3;
+                want[third] = 1;
+                sums("without the place " + first + " of three", x, want);
+            }
+        }
+    }
+
     private static void noNumberDividesAll() {
         // 1,1 and 2,2 and 3,3 are kept; 2,1 and 3,2 are not.
         sums("twice and three times", Due.net("p0;p0;m<0>1"), row(1, 1));
@@ -129,6 +161,38 @@ public final class StructureEdgesTest {
         Due.write(x, "m<0>1*9");
         x.carryOut();
         due.is("keptMany() after a text", x.keptMany(), 0);
+    }
+
+    private static void manyOfNothingAgain() {
+        Due due = new Due("promise 15, of nothing after undo");
+        TokenNets x = new TokenNets();
+        x.save(0);
+        x.place(1);
+        due.is("keptMany() of a place", x.keptMany(), 1);
+        x.undo();
+        due.is("keptMany() of nothing", x.keptMany(), 0);
+        due.is("kept(0, 8) of nothing", x.kept(0, 8), -1);
+        x.place(1);
+        due.is("keptMany() of a place again", x.keptMany(), 1);
+        x.restore(0);
+        due.is("keptMany() of nothing after restore", x.keptMany(), 0);
+    }
+
+    private static void allArcs(TokenNets x, int takes, int gives) {
+        for (int arc = 0; arc < 64; arc++) {
+            x.arc(arc / 8, arc % 8, takes, gives);
+        }
+    }
+
+    private static void manyAfterAllArcs() {
+        Due due = new Due("promise 15, after all arcs changed");
+        TokenNets x = Due.net("p0;p0;p0;p0;p0;p0;p0;p0;m;m;m;m;m;m;m;m");
+        allArcs(x, 1, 1);
+        due.is("keptMany()", x.keptMany(), 8);
+        allArcs(x, 2, 1);
+        due.is("keptMany(), all take more", x.keptMany(), 0);
+        allArcs(x, 2, 2);
+        due.is("keptMany(), all give more", x.keptMany(), 8);
     }
 
     /** Each arc alone, taking and giving, makes it another net. */
@@ -242,12 +306,15 @@ public final class StructureEdgesTest {
         eachMoveKeepsIt();
         withoutMovesEachPlaceAlone();
         someButNotAllOfItsPlaces();
+        oneOfThreePlacesTooMany();
         noNumberDividesAll();
         theLesserWeightsFirst();
         whatItComesToNow();
         whatIsNoPlace();
         manyAfterEachChange();
         manyAfterEachArc();
+        manyOfNothingAgain();
+        manyAfterAllArcs();
         theEmptySetIsBoth();
         aMoveOfOneSide();
         givesToSomePlaceOfIt();
